@@ -184,6 +184,7 @@ public final class PromiseTests {
         due(5, "choice(0, -1, 0)", x.choice(0, -1, 0), BAD);
         due(5, "choice(0, MAX, 0)", x.choice(0, MAX, 0), BAD);
         due(5, "choice(0, 5, 1)", x.choice(0, 5, 1), BAD);
+        due(5, "choice(0, 6, 0)", x.choice(0, 6, 0), BAD);
         due(5, "choice(0, 5, -2)", x.choice(0, 5, -2), BAD);
         due(5, "choice(0, 5, 32)", x.choice(0, 5, 32), BAD);
         due(5, "choice(0, 7, 7)", x.choice(0, 7, 7), BAD);
@@ -275,20 +276,22 @@ public final class PromiseTests {
             "pick ", "pick m", "pick m1", "pick m=", "pick m=x", "pick m=11", "pick p", "pick p<", "pick p<1234", "pick p!3",
             "pick t<1", "pick n>1", "pick !", "pick ()", "pick (m=1", "pick (m=1|", "pick m=1)", "pick m=1&&t=0", "pick m=1| t=0", "pick (((((m=1)))))",
             "pick !!!!!m=1", "pick (!(!(m=1))))", "pick ((((!m=1))))", "none 1,", "none 12 ", "none -1", "look 0", "look 10", "look a", "lock 1",
-            "kind 3 1 1", "kind 0 12 1", "kind 0 1", "kind 0 1 ", "kind 0 1 1;k", "None 1", "none 1;;none 1", "none 1; none 1", "\u00ff", "none\0001"};
+            "kind 3 1 1", "kind 0 12 1", "kind 0 1", "kind 0 1 ", "kind 0 1 1;k", "None 1", "none 1;;none 1", "none 1; none 1", "\u00ff", "none\0001",
+            "look :", "kind 0 : 1", "pick m=:", "none :", "none 1:", "none /", "worth 0 1/", "mark 0 ", "pick p<1:", "pick p<"};
         int[] faults = {0, 1, 5, 6, 6, 7, 8, 8, 11, 7,
             6, 5, 9, 9, 5, 1, 2, 4, 4, 4,
             5, 6, 6, 7, 7, 8, 6, 7, 10, 6,
             6, 6, 6, 6, 9, 10, 8, 9, 9, 9,
             9, 9, 9, 6, 7, 5, 5, 6, 5, 2,
-            5, 8, 8, 9, 12, 0, 7, 7, 0, 4};
+            5, 8, 8, 9, 12, 0, 7, 7, 0, 4,
+            5, 7, 7, 5, 6, 5, 9, 7, 8, 7};
         for (int i = 0; i < texts.length; i++) {
             WhyChosen x = new WhyChosen();
             due(9, "the model of '" + texts[i] + "'", tell(x, texts[i], 1), -10 - faults[i]);
             due(9, "count(4) behind it", x.count(4), 0);
             due(9, "count(3) behind it", x.count(3), 0);
         }
-        String[] good = {"none 0", "none 007", "worth 0 999", "worth 5 1;worth 5 2", "mark 7 10", "price 1", "look 1", "look 9", "kind 2 9 100",
+        String[] good = {"none 0", "price 0", "worth 0 0", "mark 0 0", "kind 0 0 0", "none 007", "worth 0 999", "worth 5 1;worth 5 2", "mark 7 10", "price 1", "look 1", "look 9", "kind 2 9 100",
             "pick m=9", "pick t=9", "pick n=9", "pick p<999", "pick p=0", "pick p>12", "pick ((((m=1))))", "pick !!!!m=1",
             "pick !(!(m=1|t=2)&n=3)|p<5", "pick (m=1)&(m=2)|(((!t=1)))", "pick m=1;pick m=2",
             "none 1;none 1;none 1;none 1;none 1;none 1;none 1;none 1;none 1;none 1"};
@@ -609,10 +612,10 @@ public final class PromiseTests {
         due(17, "letgo(2)", x.letgo(2), NONE);
         due(17, "letgo(-1)", x.letgo(-1), NONE);
         WhyChosen y = things(3);
-        for (int i = 0; i < 78; i++) {
+        for (int i = 0; i < 80; i++) {
             y.choice(0, 7, i % 3);
         }
-        due(17, "26 of each of three", y.letgo(0), 52);
+        due(17, "27, 27 and 26 of three", y.letgo(0), 53);
         WhyChosen z = things(3);
         z.choice(0, 3, 0);
         z.choice(0, 6, 1);
@@ -634,6 +637,8 @@ public final class PromiseTests {
         due(18, "like(1, 0)", x.like(1, 0), 0);
         x.put(3, 1);
         due(18, "like(1, 0)", x.like(1, 0), 1);
+        x.choice(0, 4, -1);
+        due(18, "by one order alone", x.like(1, 0), 1);
         due(18, "like(0, 0)", x.like(0, 0), BAD);
         due(18, "like(3, 3)", x.like(3, 3), NONE);
         due(18, "like(0, 3)", x.like(0, 3), NONE);
@@ -654,6 +659,9 @@ public final class PromiseTests {
         due(19, "none agrees", x.would(0, 7), 0);
         x.put(2, 2);
         due(19, "would(0, 7)", x.would(0, 7), 1);
+        x.choice(0, 2, 1);
+        due(19, "one order alone", x.agree(0), 1);
+        due(19, "would(0, 6)", x.would(0, 6), 2);
         due(19, "would(2, 0)", x.would(2, 0), NONE);
         due(19, "would(0, 0)", x.would(0, 0), BAD);
         due(19, "would(0, 8)", x.would(0, 8), BAD);
@@ -715,6 +723,10 @@ public final class PromiseTests {
         due(22, "next(1)", x.next(1), 3);
         x.choice(0, 1, -1);
         due(22, "none agrees", x.next(0), -5);
+        WhyChosen y = things(3);
+        y.ask(7);
+        y.ask(3);
+        due(22, "the first", y.next(0), 0);
     }
 
     private static void silly() {
@@ -732,6 +744,13 @@ public final class PromiseTests {
         x.price(1, 11);
         due(23, "silly(7)", x.silly(7), 0);
         due(23, "silly(3)", x.silly(3), 1);
+        WhyChosen y = new WhyChosen();
+        y.thing(7, 10, 0);
+        y.thing(3, 10, 1);
+        y.thing(3, 9, 1);
+        due(23, "the first has all", y.silly(3), 1);
+        due(23, "the first costs more", y.silly(5), 0);
+        due(23, "like marks", y.silly(6), 1);
     }
 
     private static void could() {
@@ -759,6 +778,10 @@ public final class PromiseTests {
     private static void away() {
         WhyChosen x = world();
         dueAway(x, 0, 1, 0, 0, 0, 0, -6);
+        WhyChosen y = world();
+        y.choice(0, 7, 1);
+        y.choice(0, 5, 0);
+        dueAway(y, 0, 1, 0, 1, 1, 1, 1);
         x.choice(0, 3, 0);
         x.choice(1, 7, 2);
         dueAway(x, 0, 1, 1, 2, 0, 0, -6);
@@ -970,6 +993,15 @@ public final class PromiseTests {
             due(33, "of(" + i + ", 3)", x.of(i, 3), 0);
         }
         due(33, "count(2)", x.count(2), 4);
+        due(33, "one and no more", x.sheet(0, 9, 1, 0), 1);
+        x.tape(2, 3, 4);
+        x.item(2, 0, 100L * 4294967297L + 1);
+        x.item(2, 1, -100L * 4294967295L);
+        x.item(2, 2, Long.MAX_VALUE);
+        x.item(2, 3, Long.MIN_VALUE);
+        due(33, "great numbers do not wrap", x.sheet(2, 0, 4, 0), 4);
+        x.tape(2, -1, 4);
+        due(33, "a row that is gone", x.sheet(2, 0, 4, 0), 4);
         due(33, "beyond the end", x.sheet(0, 6, 20, 0), 119);
         due(33, "at the end", x.sheet(0, 10, 3, 0), 3);
         due(33, "far beyond the end", x.sheet(0, MAX, 3, 0), 3);
@@ -985,6 +1017,12 @@ public final class PromiseTests {
             due(33, "a row of sort " + sort, x.sheet(1, 0, 1, 0), sort == 3 ? 1 : CAST);
             due(33, "a row of sort " + sort + ", n", x.sheet(1, 0, 0, 0), BAD);
         }
+        x.tape(2, 3, 5);
+        for (int i = 0; i < 5; i++) {
+            x.item(2, i, 101);
+        }
+        due(33, "as many as told", x.sheet(2, 1, 2, 0), 200);
+        due(33, "count(2)", x.count(2), 7);
         for (int i = x.count(2); i < 79; i++) {
             x.choice(0, 1, 0);
         }
@@ -1025,7 +1063,9 @@ public final class PromiseTests {
         due(35, "item(0, 59, 1)", x.item(0, 59, 1), 1);
         due(35, "tape(0, 9, 60)", x.tape(0, 9, 60), BAD);
         due(35, "read(0, 59)", x.read(0, 59), 1);
+        x.item(0, 0, 1);
         due(35, "tape(0, 3, 60)", x.tape(0, 3, 60), 1);
+        due(35, "read(0, 0)", x.read(0, 0), 0);
         due(35, "read(0, 59)", x.read(0, 59), 0);
         due(35, "tape(0, -1, MIN)", x.tape(0, -1, MIN), 1);
         due(35, "read(0, 59)", x.read(0, 59), NO);
@@ -1108,5 +1148,12 @@ public final class PromiseTests {
         due(38, "shift(3, 0, 6, 0, 1)", x.shift(3, 0, 6, 0, 1), NONE);
         due(38, "shift(-1, 0, 0, 0, 1)", x.shift(-1, 0, 0, 0, 1), NONE);
         due(38, "read(1, 0)", x.read(1, 0), 2);
+        for (int sort = 0; sort < 5; sort++) {
+            x.tape(4, sort, 2);
+            x.tape(5, sort, 2);
+            x.item(4, 0, 1);
+            due(38, "shift of sort " + sort, x.shift(4, 0, 5, 1, 1), 1);
+            due(38, "read of sort " + sort, x.read(5, 1), 1);
+        }
     }
 }
