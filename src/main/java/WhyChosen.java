@@ -61,7 +61,7 @@ public final class WhyChosen {
         if (choices.count > 0 || askCount > 0) {
             return STATE;
         }
-        return goods.count >= MOST_THINGS ? FULL : goods.add(marks, price, nest);
+        return goods.add(marks, price, nest);
     }
 
     public int price(int thing, int n) {
@@ -657,9 +657,6 @@ public final class WhyChosen {
         if (taken >= 0 && (!goods.has(taken) || !isIn(taken, set))) {
             return BAD;
         }
-        if (choices.count >= MOST_CHOICES) {
-            return FULL;
-        }
         return choices.add(taker, set, taken < 0 ? NOTHING : taken);
     }
 
@@ -777,6 +774,9 @@ public final class WhyChosen {
         }
 
         int add(int mark, int price, int nest) {
+            if (count >= MOST_THINGS) {
+                return FULL;
+            }
             marks[count] = mark;
             prices[count] = price;
             nests[count] = nest;
@@ -882,6 +882,9 @@ public final class WhyChosen {
         }
 
         int add(int taker, int set, int option) {
+            if (count >= MOST_CHOICES) {
+                return FULL;
+            }
             takers[count] = taker;
             sets[count] = set;
             options[count] = option;
