@@ -1795,6 +1795,13 @@ public final class BoundaryTests {
     // ---- the promises
 
     private static void newObject() {
+        says("`NO = Long.MIN_VALUE`: There is no such number.");
+        same("NO", WhyChosen.NO, NO);
+        says("Answers: NONE (-1) no such number; BAD (-2) a number is not as told; STATE (-3) as told; FULL (-4)");
+        same("NONE", WhyChosen.NONE, NONE);
+        same("BAD", WhyChosen.BAD, BAD);
+        same("STATE", WhyChosen.STATE, STATE);
+        same("FULL", WhyChosen.FULL, FULL);
         says("No THINGS, no TAKERS.");
         fresh();
         int[] counts = {0, 0, 0, 0, 0, 0, 1, 0};
@@ -1831,7 +1838,32 @@ public final class BoundaryTests {
         is("price 0 99", 99);
         is("price 1 100", NONE);
         is("price -1 0", NONE);
+        says("A TAKER: its number. BAD: kind; FULL.");
+        fresh();
+        is("taker 3", BAD);
+        for (int i = 0; i < 16; i++) {
+            is("taker 2", i);
+        }
+        is("taker 2", FULL);
+        is("taker 3", BAD);
+        is("taker -1", BAD);
+        is("count 1", 16);
+        says("A CHOICE: its number. NONE: taker; BAD: set, taken; FULL.");
+        things(1);
+        is("choice 1 0 1", NONE);
+        is("choice -1 1 0", NONE);
+        is("choice 0 0 -1", BAD);
+        is("choice 0 2 1", BAD);
+        is("choice 0 1 1", BAD);
+        for (int i = 0; i < 80; i++) {
+            is("choice 0 1 " + (i % 2 - 1), i);
+        }
+        is("choice 0 1 0", FULL);
+        is("choice 0 1 1", BAD);
+        is("choice 0 2 0", BAD);
+        is("choice 1 1 0", NONE);
         says("A CHOICE becomes USED (0), KEPT (1), LET GO (2): what it was. NONE: choice; BAD.");
+        things(1);
         call("choice 0 1 0");
         is("put 0 2", 0);
         is("put 0 3", BAD);
