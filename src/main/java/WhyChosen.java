@@ -1160,7 +1160,7 @@ public final class WhyChosen {
                 if (figure < 0 || figure > 9) {
                     break;
                 }
-                n = 10 * Math.max(n, 0) + figure;
+                n = (n < 0 ? 0 : 10 * n) + figure;
                 place++;
             }
             return n;
